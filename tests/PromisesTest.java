@@ -133,8 +133,9 @@ public final class PromisesTest {
         PlantsCommitted x = new PlantsCommitted();
         due("nothing", x.tells(), -1000);
         String[] faults = {"p", "p1", "p1,", "p1,2", "p1,2;q", "p,", "p1;", "p123,", "g0-", "g0=1;", "c0=1,2;",
-            "t0=1,2,", "a0", "a0=1;", "a0+;", "a0+1", "d0=100,", "h;", "h+1;", "h12", "P1,2;", "h1;;", " h1;", "h1; "};
-        int[] places = {1, 2, 3, 4, 5, 1, 2, 3, 2, 4, 6, 6, 2, 2, 3, 4, 5, 1, 1, 3, 0, 3, 0, 3};
+            "t0=1,2,", "a0", "a0=1;", "a0+;", "a0+1", "d0=100,", "h;", "h+1;", "h12", "P1,2;", "h1;;", " h1;", "h1; ",
+            "a001;", "a0++1;", "a0+-1;", "g0=,1;"};
+        int[] places = {1, 2, 3, 4, 5, 1, 2, 3, 2, 4, 6, 6, 2, 2, 3, 4, 5, 1, 1, 3, 0, 3, 0, 3, 3, 3, 3, 3};
         for (int i = 0; i < faults.length; i++) {
             due("'" + faults[i] + "'", tell(x, faults[i]), -1000 - places[i]);
             due("letters", x.count(4), 0);
@@ -833,6 +834,11 @@ public final class PromisesTest {
         PlantsCommitted x = new PlantsCommitted();
         due("pays(3, -4)", x.pays(3, -4), 1);
         due("purse", x.purse(), -12);
+        x.pays(1, 20);
+        due("the least long by -1, which would wrap", x.pays(least, -1), -7);
+        due("-1 by the least long", x.pays(-1, least), -7);
+        due("purse", x.purse(), 8);
+        x.pays(-1, 20);
         due("pays(least, 1)", x.pays(least, 1), -7);
         due("pays(least, -1)", x.pays(least, -1), -7);
         due("pays(-1, least)", x.pays(-1, least), -7);
@@ -893,9 +899,13 @@ public final class PromisesTest {
         due("rack(0, 0, -1)", x.rack(0, 0, -1), -14);
         due("still missing", x.racked(0, 0, 1), -11);
         due("rack(0, 0, 9)", x.rack(0, 0, 9), 1);
-        due("racks(0, 8, 0)", x.racks(0, 8, 0), 1);
+        for (int i = 0; i < 9; i++) {
+            due("racks(0, i, 0)", x.racks(0, i, 0), 1);
+        }
         due("rack(0, 0, 9)", x.rack(0, 0, 9), 1);
-        due("all empty", x.racked(0, 8, 1), -9);
+        for (int i = 0; i < 9; i++) {
+            due("all empty", x.racked(0, i, 1), -9);
+        }
         due("rack(0, 0, 0)", x.rack(0, 0, 0), 1);
         due("no place", x.racked(0, 0, 1), -13);
         refusals(x, 1, 2, 0, 0, 1);

@@ -894,7 +894,7 @@ public final class PlantsCommitted {
         }
 
         private int most(boolean goesOn) {
-            if (goesOn && kind != FULL && isUnder(SLOW)) {
+            if (goesOn && kind != FULL && kindIsUnder(kind, SLOW)) {
                 return Math.min(low + figure, high);
             }
             return high;
@@ -906,7 +906,7 @@ public final class PlantsCommitted {
                 if (turnsOn) {
                     return Math.min(from + 1, MOST_REST);
                 }
-                return from < up || isUnder(BASE) ? 0 : -1;
+                return from < up || kindIsUnder(kind, BASE) ? 0 : -1;
             }
             if (turnsOn) {
                 return -from < down ? 0 : 1;
