@@ -761,6 +761,9 @@ public final class PromisesTest {
         due("lots(1, 0, 2)", x.lots(1, 0, 2), -2);
         due("lots(1, 0, -1)", x.lots(1, 0, -1), -2);
         refusals(x, 0, 2, 0, 1, 1);
+        PlantsCommitted free = told("h2;p0,0;g0=0,60;c0=0,0,0;p0,0;g1=0,60;c1=0,0,0;");
+        due("in all there is BEST, for nothing", free.lots(7, 5, 0), 7);
+        due("for nothing", free.lots(7, 5, 1), 0);
     }
 
     private static void list() {

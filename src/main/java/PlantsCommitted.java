@@ -1270,7 +1270,7 @@ public final class PlantsCommitted {
             return merit == 1 && later.high > earlier.high;
         }
 
-        /** What it costs but for starts, the shares being left in the row; NONE if the set can't. */
+        /** What it costs but for starts, the shares of the set being left in the row; NONE if it can't. */
         private int share(int demand, int reserve, int set, int goOn) {
             int leastOfAll = 0;
             int mostOfAll = 0;
@@ -1288,7 +1288,6 @@ public final class PlantsCommitted {
             int left = demand - leastOfAll;
             for (int i = 0; i < many; i++) {
                 int p = order[i];
-                shares[p] = 0;
                 if ((set >> p & 1) == 1) {
                     int more = Math.min(left, mostOf(p, goOn) - least[p]);
                     shares[p] = least[p] + more;
