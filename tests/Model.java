@@ -716,8 +716,8 @@ public final class Model {
         if (list < 0 || list > 3) return no(-1);
         int[] b = s.best();
         if (b == null) return no(-3);
+        if (lists[list] == null) return -11;
         for (int p = 0; p < s.plants.size(); p++) {
-            if (lists[list] == null) return -11;
             long place = (long) i + p;
             if (place < 0 || place >= lists[list].length) return -13;
             lists[list][(int) place] = b[p + 1];

@@ -821,14 +821,20 @@ public final class PromisesTest {
         due("nothing is laid", x.judge(0), 0);
         due("none", none().lays(0, 0), -3);
         PlantsCommitted y = new PlantsCommitted();
-        due("no plants", y.lays(0, 5), 0);
+        due("no plants, no list", y.lays(0, 0), -11);
+        due("no plants, no list, any place", y.lays(3, 5), -11);
         y.list(1, 1);
-        due("no plants, a list", y.lays(1, -5), 0);
+        due("no plants, a list", y.lays(1, 0), 0);
+        due("no plants, no place is lacked", y.lays(1, -5), 0);
+        due("no plants, no place is lacked", y.lays(1, MAX), 0);
+        y.list(2, 0);
+        due("no plants, an empty list", y.lays(2, 0), 0);
         y.demand(0, 1, 0);
         due("no plants, none", y.lays(1, 0), -3);
+        due("no plants, none, no list", y.lays(0, 0), -3);
         due("no such list", y.lays(9, 0), -1);
         refusals(x, 1, 0, 0, 0, 0);
-        refusals(y, 1, 0, 1, 0, 0);
+        refusals(y, 1, 0, 2, 0, 0);
     }
 
     private static void pays() {

@@ -511,10 +511,7 @@ public final class PlantsCommitted {
         if (solveAsIs() < 0) {
             return refuse(STATE);
         }
-        // the document says 0 where there are no plants: nothing is laid, so no list is looked for
-        if (scene.many == 0) {
-            return 0;
-        }
+        // the 0 told for no plants goes ahead of no refusal, so it needs a list that is there, too
         if (lines[list].size < 0) {
             return MISSING;
         }
