@@ -139,6 +139,26 @@ public final class Bounds01To11Test {
         }
     }
 
+    private static void promise03_tells_noNumberWithoutADigit() {
+        fault("p,2;", -1001);
+        fault("p1,;", -1003);
+        fault("g=3,4;", -1001);
+        fault("g0=,4;", -1003);
+        fault("g0=3,;", -1005);
+        fault("c=1,2,3;", -1001);
+        fault("c0=,2,3;", -1003);
+        fault("c0=1,,3;", -1005);
+        fault("c0=1,2,;", -1007);
+        fault("t=1,2;", -1001);
+        fault("t0=1,;", -1005);
+        fault("a+1;", -1001);
+        fault("a0+;", -1003);
+        fault("a0-;", -1003);
+        fault("d=9,2;", -1001);
+        fault("d0=9,;", -1005);
+        fault("h;", -1001);
+    }
+
     private static void promise03_tells_noThirdDigit() {
         fault("p001,2;", -1003);
         fault("p1,002;", -1005);

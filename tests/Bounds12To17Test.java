@@ -22,6 +22,14 @@ public final class Bounds12To17Test {
         }
     }
 
+    private static void promise12_of_eachNumberApart() {
+        PlantsCommitted x = Bounds.calls(fresh(), "plant(4, 5)", "gives(0, 6, 27)", "costs(0, 8, 19, 40)", "times(0, 3, 1)", "age(0, 2)");
+        int[] is = {4, 5, 6, 27, 8, 19, 40, 3, 1, 12, 6, 27};
+        for (int what = 0; what <= 11; what++) {
+            Bounds.says(x, "of(0, " + what + ")", is[what]);
+        }
+    }
+
     private static void promise12_of_nobody() {
         Bounds.refused(Bounds::rich, -1, "of(2, 0)", "of(-1, 0)", "of(MIN, 11)", "of(MAX, 11)");
         Bounds.refused(Bounds12To17Test::fresh, -1, "of(0, 0)");
@@ -374,6 +382,20 @@ public final class Bounds12To17Test {
         given(full, 8, -9, -9);
         given(full, 9, 2, 7);
         given(full, 17, 10, 7);
+    }
+
+    private static void promise17_given_leastCountsToMost() {
+        PlantsCommitted x = Bounds.made("p0,0;g0=2,10;p0,0;c1=2,0,0;");
+        given(x, 2, 2, 0);
+        given(x, 10, 10, 0);
+        given(x, 11, 10, 1);
+        given(x, 13, 10, 3);
+        given(x, 20, 10, 10);
+        PlantsCommitted y = Bounds.made("p0,0;g0=30,60;p0,0;g1=30,60;c1=2,0,0;");
+        given(y, 59, -9, -9);
+        given(y, 60, 30, 30);
+        given(y, 90, 60, 30);
+        given(y, 91, 60, 31);
     }
 
     private static void promise17_given_reserveIsNotGiven() {

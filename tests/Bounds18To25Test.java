@@ -55,8 +55,87 @@ public final class Bounds18To25Test {
 
     private static void promise18_best_leastOfOneThatMayNotGoOff() {
         PlantsCommitted x = Bounds.made("h2;p0,0;g0=5,9;t0=3,1;a0+1;d0=5,0;d1=5,0;");
-        Bounds.says(x, "best()", 10, "demand(1, 4, 0)", 500, "best()", -9, "age(0, 2)", 11, "best()", -9, "demand(1, 0, 0)", 400,
-                "best()", 5);
+        Bounds.says(x, "best()", 10, "demand(1, 4, 0)", 500, "best()", -9, "demand(1, 0, 0)", 400, "best()", -9, "age(0, 2)", 11,
+                "best()", 5, "demand(0, 0, 0)", 500, "best()", -9, "age(0, 3)", 12, "best()", 0);
+    }
+
+    /** Three, of which but plant p, of a kind with FIGURE 3, can give or cost anything. */
+    private static PlantsCommitted only(int p, int kind, String... calls) {
+        PlantsCommitted x = new PlantsCommitted();
+        for (int i = 0; i < 3; i++) {
+            Bounds.calls(x, i == p ? "plant(" + kind + ", 3)" : "plant(0, 0)", "gives(" + i + ", 0, 0)");
+        }
+        for (String text : calls) {
+            Bounds.call(x, text.replace("P", "" + p));
+        }
+        return x;
+    }
+
+    private static void promise18_best_onForUpHoursOfEachPlant() {
+        for (int p = 0; p < 3; p++) {
+            for (int kind = 0; kind <= 5; kind++) {
+                for (int up = 1; up <= 3; up++) {
+                    for (int age = 1; age <= 4; age++) {
+                        PlantsCommitted x = only(p, kind, "times(P, " + up + ", 1)", "age(P, " + age + ")", "costs(P, 0, 7, 50)");
+                        Bounds.says(x, "best()", 7 * (kind == 3 || kind == 5 ? 4 : Math.max(0, up - age)));
+                    }
+                }
+            }
+        }
+    }
+
+    private static void promise18_best_onForUpHoursOnceItHasGoneOn() {
+        for (int p = 0; p < 3; p++) {
+            for (int up = 1; up <= 3; up++) {
+                PlantsCommitted x = only(p, 1, "times(P, " + up + ", 1)", "gives(P, 1, 10)", "demand(0, 1, 0)");
+                Bounds.says(x, "best()", up == 1 ? 3 + 1 : -9, "demand(1, 2, 0)", 0, "best()", up <= 2 ? 3 + 3 : -9,
+                        "demand(2, 3, 0)", 0, "best()", 3 + 6);
+            }
+        }
+    }
+
+    private static int startOf(int kind, int rest) {
+        int cold = 5 + 3 * Math.min(4, rest);
+        int[] starts = {5, cold, 5, 10, rest == 1 ? cold / 2 : cold, 10};
+        return starts[kind];
+    }
+
+    private static void promise18_best_offForDownHoursOfEachPlant() {
+        for (int p = 0; p < 3; p++) {
+            for (int kind = 0; kind <= 5; kind++) {
+                for (int down = 1; down <= 3; down++) {
+                    for (int age = 1; age <= 4; age++) {
+                        offForDownHours(p, kind, down, age);
+                    }
+                }
+            }
+        }
+    }
+
+    /** One is asked from hour t on. */
+    private static void offForDownHours(int p, int kind, int down, int age) {
+        PlantsCommitted x = only(p, kind, "times(P, 1, " + down + ")", "age(P, -" + age + ")", "gives(P, 1, 1)", "costs(P, 1, 0, 5)");
+        for (int t = 3; t >= 0; t--) {
+            x.demand(t, 1, 0);
+            Bounds.says(x, "best()", down <= age + t ? 4 - t + startOf(kind, age + t) : -9);
+        }
+    }
+
+    private static void promise18_best_offForDownHoursOnceItHasGoneOff() {
+        for (int p = 0; p < 3; p++) {
+            for (int down = 1; down <= 3; down++) {
+                PlantsCommitted x = only(p, 1, "times(P, 1, " + down + ")", "age(P, 1)", "gives(P, 1, 10)", "demand(3, 1, 0)",
+                        "demand(0, 1, 0)");
+                Bounds.says(x, "best()", down <= 2 ? 2 + 6 : -9, "demand(1, 1, 0)", 0, "best()", down == 1 ? 3 + 3 : -9);
+            }
+        }
+    }
+
+    private static void promise18_best_threePlantsThatRestAndStayLongest() {
+        PlantsCommitted x = Bounds.made("h5;p1,9;c0=0,1,10;t0=3,3;a0+4;p1,9;c1=0,1,10;t1=3,3;a1+3;p1,9;c2=0,1,10;t2=3,3;a2-4;");
+        Bounds.says(x, "best()", 0, "demand(4, 30, 0)", 0, "best()", 5 + 5 + 47, "row(0)", 31, "row(1)", 31, "row(2)", 16);
+        PlantsCommitted y = Bounds.made("h5;p1,9;c0=0,1,10;t0=3,3;a0-4;p1,9;c1=0,1,10;t1=3,3;a1+4;p1,9;c2=0,1,10;t2=3,3;a2+4;");
+        Bounds.says(y, "best()", 0, "demand(4, 30, 0)", 0, "best()", 5 + 5 + 47, "row(0)", 16, "row(1)", 31, "row(2)", 31);
     }
 
     private static void promise18_best_mostInTheHourInWhichItGoesOn() {
@@ -64,6 +143,12 @@ public final class Bounds18To25Test {
         Bounds.says(x, "best()", 27, "demand(0, 8, 0)", 700, "best()", -9, "age(0, 1)", 9, "best()", 28);
         PlantsCommitted y = Bounds.made("h2;p2,3;g0=4,20;d0=4,0;d1=20,0;");
         Bounds.says(y, "best()", 24, "demand(0, 3, 0)", 400, "best()", -9);
+    }
+
+    private static void promise18_best_upToMostOfOneThatGoesOnTheRestOfTheNext() {
+        PlantsCommitted x = Bounds.made("h1;p2,1;g0=2,9;p0,0;c1=5,0,0;d0=10,0;");
+        Bounds.says(x, "best()", 3 + 35, "age(0, 1)", 9, "best()", 9 + 5, "age(0, -1)", 11, "demand(0, 13, 0)", 1000, "best()", 3 + 50,
+                "demand(0, 14, 0)", 1300, "best()", -9);
     }
 
     private static void promise18_best_startsByRestThatCounts() {
@@ -167,6 +252,11 @@ public final class Bounds18To25Test {
         Bounds.says(dearest(), "cost(0)", 981 + 300, "cost(4)", 981);
     }
 
+    private static void promise20_cost_ofOneThatGoesOnNoMoreThanItCanThere() {
+        PlantsCommitted x = Bounds.made("h2;p2,1;g0=2,9;c0=1,0,4;p0,0;c1=5,0,0;a1+1;d0=10,0;d1=10,0;");
+        Bounds.says(x, "best()", 42 + 14, "cost(0)", 4 + 3 + 35, "cost(1)", 9 + 5, "shown(2)", 17);
+    }
+
     // ---- 21: margin
 
     private static void promise21_margin_firstAndLastHour() {
@@ -258,6 +348,12 @@ public final class Bounds18To25Test {
             PlantsCommitted x = Bounds.made("h1;p0,0;g0=0,60;", "demand(0, " + asked + ", 0)");
             Bounds.says(x, "hand()", 60 - asked);
         }
+    }
+
+    private static void promise23_hand_reserveIsKeptNotAsked() {
+        // both may not be on for 5, as that is less than they give at least
+        PlantsCommitted x = Bounds.made("h1;p0,0;g0=5,10;p0,0;g1=5,10;d0=5,0;");
+        Bounds.says(x, "hand()", 5, "demand(0, 9, 0)", 500, "hand()", 1, "demand(0, 10, 0)", 900, "hand()", 10);
     }
 
     private static void promise23_hand_noneIsNotCounted() {

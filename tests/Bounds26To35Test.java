@@ -193,6 +193,12 @@ public final class Bounds26To35Test {
                 "rounds(6, 0)", 36, "rounds(7, 0)", 36);
     }
 
+    private static void promise30_rounds_whatAllAnswersGiveTogether() {
+        PlantsCommitted x = Bounds.made("h1;p0,0;g0=0,3;c0=0,0,0;p0,0;g1=0,4;c1=0,0,0;p0,0;g2=0,5;c2=0,0,0;d0=2,0;", "price(0, 50)");
+        Bounds.says(x, "rounds(1, 0)", 40, "rounds(2, 0)", 35, "demand(0, 12, 0)", 200, "rounds(20, 0)", 50, "demand(0, 13, 0)", 1200,
+                "rounds(1, 0)", 51);
+    }
+
     private static void promise30_rounds_nothingIsHeld() {
         Bounds.says(small(4, 0), "rounds(1, 0)", 1, "rounds(2, 0)", 0);
         Bounds.says(small(3, 0), "rounds(1, 0)", 0, "rounds(2, 0)", 0);
@@ -308,9 +314,21 @@ public final class Bounds26To35Test {
         Bounds.says(y, "answer(0, 0)", 1, "answer(1, 0)", 0, "answer(2, 0)", 1, "repaired(0)", 1, "repaired(1)", 0, "repaired(2)", 1);
     }
 
+    /** For the price of hour 1 plant 0 stays on, though plant 1 would do hour 0 for nothing. */
+    private static void promise32_repaired_whatCostsLessButIsOtherwiseIsNotTaken() {
+        String text = "h2;p0,0;g0=3,3;c0=0,6,50;a0+1;p0,0;g1=3,3;c1=0,0,0;d0=3,0;d1=6,0;";
+        PlantsCommitted x = Bounds.made(text, "price(1, 99)");
+        Bounds.says(x, "answer(0, 0)", 3, "answer(1, 0)", 2, "repaired(0)", 3, "repaired(1)", 2, "repaired(-1)", 12);
+        String other = "h2;p0,0;g0=3,3;c0=0,0,0;p0,0;g1=3,3;c1=0,6,50;a1+1;d0=3,0;d1=6,0;";
+        PlantsCommitted y = Bounds.made(other, "price(1, 99)");
+        Bounds.says(y, "answer(0, 0)", 2, "answer(1, 0)", 3, "repaired(0)", 2, "repaired(1)", 3, "repaired(-1)", 12);
+    }
+
     private static void promise32_repaired_ofSeveralTheLeastCost() {
         PlantsCommitted x = Bounds.made("h1;p0,0;c0=2,0,0;p0,0;c1=1,0,0;p0,0;c2=2,0,0;d0=5,0;");
         Bounds.says(x, "repaired(-1)", 5, "repaired(0)", 0, "repaired(1)", 1, "repaired(2)", 0);
+        // one less is enough
+        Bounds.says(x, "demand(0, 1, 0)", 500, "repaired(-1)", 1, "repaired(0)", 0, "repaired(1)", 1, "demand(0, 5, 0)", 100);
         // what it costs to start counts
         Bounds.says(x, "costs(1, 1, 0, 6)", 10000, "repaired(-1)", 10, "repaired(0)", 1, "repaired(1)", 0);
     }
@@ -320,6 +338,17 @@ public final class Bounds26To35Test {
         Bounds.says(x, "repaired(0)", 1, "repaired(1)", 0, "repaired(2)", 0, "demand(0, 15, 0)", 500, "repaired(0)", 1,
                 "repaired(1)", 1, "repaired(2)", 0, "demand(0, 30, 0)", 1500, "repaired(2)", 1, "demand(0, 31, 0)", 3000,
                 "repaired(2)", -9);
+    }
+
+    private static void promise32_repaired_nobodyForNothing() {
+        PlantsCommitted x = Bounds.made("h5;p0,0;c0=0,0,0;p0,0;c1=0,0,0;p0,0;c2=0,0,0;");
+        Bounds.says(x, "repaired(-1)", 0, "repaired(0)", 0, "repaired(1)", 0, "repaired(2)", 0);
+    }
+
+    private static void promise32_repaired_mostInTheHourInWhichItGoesOn() {
+        PlantsCommitted x = Bounds.made("h1;p2,1;g0=2,9;p0,0;c1=5,0,0;d0=3,0;", "price(0, 3)");
+        Bounds.says(x, "repaired(-1)", 3, "repaired(0)", 1, "repaired(1)", 0, "demand(0, 4, 0)", 300, "repaired(-1)", 3 + 5,
+                "repaired(0)", 1, "repaired(1)", 1, "age(0, 1)", 9, "repaired(-1)", 4, "repaired(1)", 0);
     }
 
     private static void promise32_repaired_onlyWhereItMayGo() {
@@ -391,6 +420,21 @@ public final class Bounds26To35Test {
         PlantsCommitted base = Bounds.made("h5;p3,0;");
         Bounds.says(rows(base, 8), "judge(0)", 4);
         Bounds.says(rows(base, 24), "judge(0)", -9);
+    }
+
+    private static void promise33_judge_mostInTheHourInWhichItGoesOn() {
+        for (int t = 0; t < 4; t++) {
+            PlantsCommitted x = Bounds.made("p2,1;g0=2,9;", "demand(" + t + ", 3, 0)");
+            Bounds.says(rows(x, 1 << t), "judge(0)", -9, "demand(" + t + ", 4, 0)", 300, "judge(0)", t, "demand(" + t + ", 3, 1)", 400,
+                    "judge(0)", t);
+        }
+        for (int p = 0; p < 3; p++) {
+            PlantsCommitted x = Bounds.made("h1;p2,1;g0=2,9;p2,1;g1=2,9;p2,1;g2=2,9;d0=3,0;");
+            int[] told = {p == 0 ? 1 : 0, p == 1 ? 1 : 0, p == 2 ? 1 : 0};
+            Bounds.says(rows(x, told), "judge(0)", -9, "demand(0, 4, 0)", 300, "judge(0)", 0, "age(" + p + ", 1)", 9, "judge(0)", -9);
+        }
+        PlantsCommitted y = Bounds.made("h2;p2,1;g0=2,9;d0=3,0;d1=9,0;");
+        Bounds.says(rows(y, 3), "judge(0)", -9, "demand(0, 9, 0)", 300, "judge(0)", 0, "age(0, 1)", 9, "judge(0)", -9);
     }
 
     private static void promise33_judge_bitsAboveDoNotMatter() {
@@ -516,6 +560,13 @@ public final class Bounds26To35Test {
         }
         int all = sum;
         Bounds.asks(() -> able(5), all, "lots(20, 0, 1)");
+    }
+
+    private static void promise35_lots_aDrawForEachHourThatIsThere() {
+        Bounds.asks(() -> able(1), 63 + 77, "lots(2, 0, 1)");
+        Bounds.asks(() -> able(1), 63 + 77 + 86 + 39 + 49 + 90, "lots(6, 0, 1)");
+        Bounds.asks(() -> able(2), 63 + 77 + 86 + 39, "lots(2, 0, 1)");
+        Bounds.asks(() -> able(3), 63 + 77 + 86 + 39 + 49 + 90, "lots(2, 0, 1)");
     }
 
     private static void promise35_lots_belowTheLeast() {

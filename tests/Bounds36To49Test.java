@@ -510,6 +510,15 @@ public final class Bounds36To49Test {
         Bounds.says(x, "count(11)", 0, "count(13)", 0, "count(15)", 0, "count(16)", 0);
     }
 
+    private static void promise48_count_upToThe512thCall() {
+        PlantsCommitted x = fresh();
+        for (int i = 0; i < 255; i++) {
+            x.tells();
+            x.merit(i % 2 == 0 ? 3 : -1);
+        }
+        Bounds.says(x, "count(12)", 255, "best()", 0);
+    }
+
     private static void promise48_count_refusalsOfLongsToo() {
         Bounds.refused(Bounds::rich, -1, "answer(9, 0)");
         Bounds.refused(Bounds::rich, -2, "shown(9)");
